@@ -62,18 +62,16 @@ public final class KeyedReconciler {
         if (lastOpen == NOWHERE) {
             return NONE;
         }
-        closeNode();
+        // The open nodes are the last one opened and all nodes above it, so
+        // the one that is the last open one next is its parent.
+        lastOpen = draftParent[lastOpen];
+        openCount--;
         return openCount;
     }
 
     public int leaf(int type, int key) {
-        int refusal = refusalToOpen(type, key);
-        if (refusal != ALLOWED) {
-            return refusal;
-        }
-        openNode(type, key);
-        closeNode();
-        return openCount;
+        int answer = open(type, key);
+        return answer < 0 ? answer : close();
     }
 
     public void scrap() {
@@ -218,13 +216,6 @@ public final class KeyedReconciler {
         lastOpen = draftSize;
         draftSize++;
         openCount++;
-    }
-
-    // The open nodes are the last one opened and all nodes above it, so the
-    // one that is the last open one next is its parent.
-    private void closeNode() {
-        lastOpen = draftParent[lastOpen];
-        openCount--;
     }
 
     private void emptyDraft() {

@@ -256,15 +256,18 @@ public final class DraftTest {
     }
 
     private static void promise7RecallReplacesTheDraft() {
-        KeyedReconciler x = Trees.shown("00(01)");
+        KeyedReconciler x = Trees.shown("00(01 02)");
         x.open(1, 1);
         x.open(1, 2);
-        x.leaf(1, 3);
-        Due.answer("over an open draft: recall()", x.recall(), 2);
+        x.open(1, 3);
+        x.leaf(1, 4);
+        Due.answer("over an open draft: recall()", x.recall(), 3);
         Due.answer("over an open draft: close()", x.close(), NONE);
-        Due.answer("twice: recall()", x.recall(), 2);
+        Due.answer("twice: recall()", x.recall(), 3);
         x.put(1, 4);
         Due.answer("put after recall: show()", x.show(), 0);
-        Due.text("put after recall: states", Trees.states(x), "0 4");
+        Due.text("put after recall: states", Trees.states(x), "0 4 0");
+        Due.text("over an open draft: kinds", Trees.kinds(x), "0 1 2");
+        Due.text("over an open draft: parents", Trees.parents(x), "-4 0 0");
     }
 }

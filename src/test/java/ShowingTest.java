@@ -110,6 +110,8 @@ public final class ShowingTest {
         Due.text("states", Trees.states(x), "10 0 14 11 0 12 0");
         Trees.show(x, "00(02 01(04))");
         Due.text("the state of a gone node does not come back", Trees.states(x), "10 0 11 12");
+        Trees.show(x, "10(02 01(04))");
+        Due.text("the state of a place does not stay", Trees.states(x), "0 0 0 0");
     }
 
     private static void promises9And10KeptAndGone() {
