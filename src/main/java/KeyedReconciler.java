@@ -224,12 +224,21 @@ public final class KeyedReconciler {
         lastOpen = NOWHERE;
     }
 
+    // A parent stands before its children, so it is known what a node's parent
+    // was kept of when the node's turn comes.
     private void findKeptNodes() {
-        keptOf[0] = shownSize > 0 && looksLike(0, 0) ? 0 : NOWHERE;
-        for (int i = 1; i < draftSize; i++) {
-            int parentKeptOf = keptOf[draftParent[i]];
-            keptOf[i] = parentKeptOf == NOWHERE ? NOWHERE : shownChildLike(i, parentKeptOf);
+        for (int i = 0; i < draftSize; i++) {
+            keptOf[i] = shownNodeLike(i);
         }
+    }
+
+    private int shownNodeLike(int draftPlace) {
+        int above = draftParent[draftPlace];
+        if (above == NOWHERE) {
+            return shownSize > 0 && looksLike(draftPlace, 0) ? 0 : NOWHERE;
+        }
+        int shownAbove = keptOf[above];
+        return shownAbove == NOWHERE ? NOWHERE : shownChildLike(draftPlace, shownAbove);
     }
 
     private int shownChildLike(int draftPlace, int shownAbove) {
