@@ -149,6 +149,11 @@ public final class EdgesOfShowingTest {
         moves("not at a new root", tenAndFive,
                 "10(09(04 03 02 01 00) 08 07 06 05 04 03 02 01 00)", 0);
         moves("in a chain", "00(01(01(01 02) 02) 02)", "00(02 01(02 01(02 01)))", 3);
+        moves("at the last place that a node with two children can have", "00(01(05 06))",
+                "00(02 03 04 07 08 09 05(00 01 02 03 04) 01(06 05))", 1);
+        moves("at the second place, which was the last", "00(02 03 04 01(05 06))", "00(01(06 05))", 1);
+        moves("a child far back is no better than those before it", "00(00 01 02 03 04 05)",
+                "00(03 04 02 05)", 1);
         moves("no children left", tenAndFive, "00", 0);
         moves("no children before", "00", tenAndFive, 0);
     }

@@ -17,6 +17,7 @@ public final class ShowingTest {
         promise11Moves();
         promise11MovesAreSummed();
         promise11MovesOfManyOrders();
+        promise11MovesAfterEarlierShowings();
         Due.end();
     }
 
@@ -178,27 +179,29 @@ public final class ShowingTest {
         // Children of different nodes stand in no order to one another.
         moves("00(01(05 06) 02(07 08))", "00(02(07 08) 01(05 06))", 1);
         moves("00(01(05 06) 02(05 06))", "00(01(06) 02(05))", 0);
+        // A kept node may stand at a place that the tree before had not.
+        moves("00(01(05 06))", "00(02 03 04 01(06 05))", 1);
     }
 
-    /** Every order of five children, against the trial of every set left standing. */
+    /** Every order of seven children, against the trial of every set left standing. */
     private static void promise11MovesOfManyOrders() {
-        for (int code = 0; code < 5 * 5 * 5 * 5 * 5; code++) {
+        for (int code = 0; code < 7 * 7 * 7 * 7 * 7 * 7 * 7; code++) {
             int[] order = digits(code);
             if (eachOnce(order)) {
                 StringBuilder tree = new StringBuilder("00(");
                 for (int key : order) {
                     tree.append(" 0").append(key);
                 }
-                moves("00(00 01 02 03 04)", tree.append(")").toString(), 5 - mostStanding(order));
+                moves("00(00 01 02 03 04 05 06)", tree.append(")").toString(), 7 - mostStanding(order));
             }
         }
     }
 
     private static int[] digits(int code) {
-        int[] order = new int[5];
-        for (int i = 0; i < 5; i++) {
-            order[i] = code % 5;
-            code /= 5;
+        int[] order = new int[7];
+        for (int i = 0; i < 7; i++) {
+            order[i] = code % 7;
+            code /= 7;
         }
         return order;
     }
@@ -208,15 +211,15 @@ public final class ShowingTest {
         for (int key : order) {
             seen |= 1 << key;
         }
-        return seen == 31;
+        return seen == 127;
     }
 
     private static int mostStanding(int[] order) {
         int most = 0;
-        for (int set = 0; set < 32; set++) {
+        for (int set = 0; set < 128; set++) {
             int last = -1;
             boolean rising = true;
-            for (int i = 0; i < 5; i++) {
+            for (int i = 0; i < 7; i++) {
                 if ((set >> i & 1) == 1) {
                     rising = rising && order[i] > last;
                     last = order[i];
@@ -227,5 +230,24 @@ public final class ShowingTest {
             }
         }
         return most;
+    }
+
+    /** What an earlier showing reckoned at a place must not count when other nodes stand there. */
+    private static void promise11MovesAfterEarlierShowings() {
+        KeyedReconciler x = Trees.shown("00(01 02 03 04)");
+        movesNext(x, "00(01 02 03 04)", 0);
+        movesNext(x, "00(09 08 07 01)", 0);
+        movesNext(x, "00(07(01 02) 08(03) 09(04 05))", 2);
+        movesNext(x, "00(07(02 01) 09(05 04) 08)", 3);
+        movesNext(x, "00(07(02 01) 09(05 04) 08)", 0);
+        movesNext(x, "00(09(06 05) 07(06 01))", 1);
+        movesNext(x, "00(01(02 03 04 05) 09(07 06 05) 07(01 06))", 1);
+        movesNext(x, "10(07(01 06) 09(05 06) 01(05 04 03 02))", 0);
+        movesNext(x, "10(01(02 03 04 05) 07(02 01))", 4);
+    }
+
+    private static void movesNext(KeyedReconciler x, String tree, int due) {
+        Trees.show(x, tree);
+        Due.answer("next to " + tree + ": moves()", x.moves(), due);
     }
 }
