@@ -23,10 +23,10 @@ public final class ModelTest {
     private final List<Call> calls = new ArrayList<>();
     private final Call openRoot =
             new Call("open", 1, 1, (x, a, b) -> x.open(a, b), (m, a, b) -> m.open(a, b));
-    private long seed;
+    private final Numbers numbers;
 
     private ModelTest(int run) {
-        seed = run;
+        numbers = new Numbers(run);
         // Few types and keys make trees that are alike, many make wide ones.
         int types = run % 3 > 0 ? 1 : 1 + run / 3 % 4;
         int keys = 2 + run / 12 % 9;
@@ -57,8 +57,8 @@ public final class ModelTest {
         Model model = new Model();
         for (int i = 1; i <= CALLS && !Due.anyWrong(); i++) {
             // Where roots differ nothing is kept, so most roots are the same.
-            boolean sameRoot = model.drafted() == 0 && below(2) == 0;
-            Call call = sameRoot ? openRoot : calls.get(below(calls.size()));
+            boolean sameRoot = model.drafted() == 0 && numbers.below(2) == 0;
+            Call call = sameRoot ? openRoot : calls.get(numbers.below(calls.size()));
             int a = argument(call.rangeA);
             int b = argument(call.rangeB);
             Due.answer(run + ", call " + i + ": " + call.name + " of " + a + ", " + b,
@@ -72,7 +72,7 @@ public final class ModelTest {
         ModelTest test = new ModelTest(7);
         KeyedReconciler x = new KeyedReconciler();
         for (int i = 0; i < 200_000; i++) {
-            Call call = test.calls.get(test.below(test.calls.size()));
+            Call call = test.calls.get(test.numbers.below(test.calls.size()));
             call.program.ask(x, test.argument(call.rangeA), test.argument(call.rangeB));
         }
     }
@@ -126,12 +126,6 @@ public final class ModelTest {
     }
 
     private int argument(int range) {
-        return below(20) == 0 ? ODD[below(ODD.length)] : below(range);
-    }
-
-    /** The runs must be the same each time, so the numbers are reckoned, not drawn. */
-    private int below(int range) {
-        seed = seed * 6364136223846793005L + 1442695040888963407L;
-        return (int) ((seed >>> 33) % range);
+        return numbers.below(20) == 0 ? ODD[numbers.below(ODD.length)] : numbers.below(range);
     }
 }
